@@ -84,9 +84,9 @@ public final class BuyersTest {
         days(x, 0, 0, 4);
         Check.due("20: three of the shop", x.foretold(0, 0, 601, 9), 2);
         Check.due("20: as known on the day ahead", x.foretold(0, 0, 601, 3), 51);
-        days(x, 0, 1, 9);
-        Check.due("20: three of shop and weather", x.foretold(0, 0, 601, 9), 4);
-        Check.due("20: four of the shop", x.foretold(0, 0, 600, 9), 4);
+        days(x, 0, 1, 21);
+        Check.due("20: three of shop and weather", x.foretold(0, 0, 601, 9), 8);
+        Check.due("20: four of the shop", x.foretold(0, 0, 600, 9), 7);
         Check.due("20: other hour", x.foretold(0, 0, 700, 9), 0);
         Check.due("20: other step", x.foretold(0, 0, 610, 9), 0);
         int[] bad = {599, -1, 560, 2000, 640, 603, 1909 + 91};
@@ -98,9 +98,9 @@ public final class BuyersTest {
         Check.due("20: day 1500", x.foretold(0, 0, 600, 1500), BAD);
         Check.due("20: shop 2", x.foretold(2, 0, 600, 0), BAD);
         Check.due("20: kind 1", x.foretold(0, 1, 600, 0), BAD);
-        days(x, 0, 1, 11);
-        x.weather(8, 2);
-        Check.due("20: the weather of a ROW is that of then", x.foretold(0, 0, 601, 1499), 6);
+        days(x, 0, 1, 12);
+        x.weather(6, 2);
+        Check.due("20: the weather of a ROW is that of then", x.foretold(0, 0, 601, 1499), 9);
     }
 
     private static void planBounds() {

@@ -150,6 +150,28 @@ public final class GiftsBinsLotsTest {
         Check.due("38: kind 2", x.since(2, 0), BAD);
     }
 
+    private static void badBounds() {
+        DuskShelves x = small();
+        x.batch(0, 0, 0, 29);
+        x.batch(0, 1, 0, 30);
+        x.batch(0, 2, 0, 9);
+        x.move(0, 1, 0, 10);
+        int[] pieces = {3, 3, 2};
+        for (int lot = 0; lot < 3; lot++) {
+            x.bin(lot, pieces[lot], 1);
+        }
+        Check.due("37: 3 of 29, some of them moved", x.isBad(0, 0, 0), 1);
+        Check.due("37: 3 of 30", x.isBad(0, 1, 0), 0);
+        Check.due("37: 2 of 9", x.isBad(0, 2, 0), 0);
+        x.bin(2, 1, 1);
+        Check.due("37: 3 of 9", x.isBad(0, 2, 0), 1);
+        Check.due("37: the other kind", x.isBad(1, 2, 0), 0);
+        x.batch(0, 100, 0, 9);
+        x.bin(4, 9, 1);
+        Check.due("37: spoiled of another kind", x.isBad(1, 0, 0), 1);
+        Check.due("37: 3 of 30 still", x.isBad(0, 1, 0), 0);
+    }
+
     private static void tillAndCount() {
         DuskShelves x = small();
         Check.due("39: at first", x.till(0), 0);
@@ -181,6 +203,7 @@ public final class GiftsBinsLotsTest {
         eldestGiven();
         bin();
         lots();
+        badBounds();
         tillAndCount();
         Check.end("GiftsBinsLotsTest");
     }

@@ -184,6 +184,7 @@ public final class LawsTest {
         said("9999*9999*43-9999*9999*22", 2099580021);
         said("(0-8*4096*8192*8)/(0-1)", Integer.MIN_VALUE);
         said("(((((((((7)))))))))+(((((((((8)))))))))", 15);
+        said("0,0;".repeat(39) + "!0+a", 8);
         DuskShelves x = new DuskShelves();
         Check.due("18: no law", x.says(0, 0), VOID);
         Check.law(x, 0, 0, "1");

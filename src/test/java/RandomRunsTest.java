@@ -19,7 +19,7 @@ public final class RandomRunsTest {
         "hours hours buy buy buy order loss foretold weather throwing",
         "hours buy buy buy early waiting waiting drawn drawn drawn",
         "crates crates crates ways comes comes",
-        "batch hours bin bin move isBad since since ofBatch tossed",
+        "batch hours bin bin bin move isBad isBad since since ofBatch tossed",
         "batch hours kitchen gift gift gift warm cut shelf ofBatch",
         "batch move move ofBatch ofBatch shelf buy hours",
         "batch hours says says says inForce warm cut weather shelf"};
@@ -30,11 +30,13 @@ public final class RandomRunsTest {
     private final Map<String, Method> due = methodsOf(Model.class);
     private final int dayPace;
     private final int focus;
+    private final boolean daily;
 
     private RandomRunsTest(long seed) {
         random = new Random(seed);
         dayPace = 1 + random.nextInt(30);
         focus = random.nextInt(FOCUSES.length);
+        daily = random.nextInt(3) == 0;
         List<String> names = new ArrayList<>(ours.keySet());
         Collections.sort(names);
         for (String name : names) {
@@ -123,7 +125,7 @@ public final class RandomRunsTest {
             case "kitchen" -> new int[] {place(), about(0, 23)};
             case "gift" -> new int[] {shop(m), kind(m), about(0, Math.max(0, m.kitchens.size() - 1)),
                 random.nextBoolean() ? 1 + upTo(9) : about(1, 999)};
-            case "bin" -> new int[] {batch(m), random.nextBoolean() ? 1 + upTo(9) : about(1, 999), about(0, 1)};
+            case "bin" -> new int[] {batch(m), random.nextInt(5) > 0 ? 1 + upTo(upTo(9)) : about(1, 999), about(0, 1)};
             case "tossed" -> new int[] {day(m)};
             case "isBad" -> new int[] {kind(m), random.nextInt(9) == 0 ? about(0, 99) : upTo(3), day(m)};
             case "since" -> new int[] {kind(m), random.nextInt(9) == 0 ? about(0, 99) : upTo(3)};
@@ -151,6 +153,7 @@ public final class RandomRunsTest {
         int ofDay = m.hour % 24;
         if (random.nextInt(12) == 0) return about(1, 240);
         if (random.nextInt(12) == 0) return 168 - upTo(1);
+        if (daily && random.nextInt(4) > 0) return ofDay == 6 ? 24 : (30 - ofDay) % 24;
         if (ofDay < 6 || ofDay > 18) return (30 - ofDay) % 24 + 24 * (upTo(9) / 9) + upTo(1);
         return random.nextBoolean() ? 1 : 1 + upTo(dayPace);
     }

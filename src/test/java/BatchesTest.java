@@ -38,6 +38,15 @@ public final class BatchesTest {
         Check.due("11: one more, bad", x.batch(0, 0, 0, 0), BAD);
         Check.due("11: cost is as it was", x.count(8), 999 * 7 + 2 + 198 * 7);
         Check.due("11: count(2)", x.count(2), 200);
+        Check.due("35: of so many", x.bin(0, 99, 1), 900);
+        Check.due("13: of so many", x.shelf(0, 0, 0), 900 + 198);
+        Check.due("13: of so many, may be sold", x.shelf(0, 0, 1), 900 + 198);
+        Check.due("40: on all shelves", x.count(9), 900 + 198 + 2);
+        Check.due("37: of so many", x.isBad(0, 99, 10), 0);
+        Check.law(x, 0, 0, "k");
+        Check.due("7: a day begins with so many", x.hours(24), 264);
+        Check.due("40: thrown of so many", x.count(12), 999 + 198);
+        Check.due("12: the last one thrown", x.ofBatch(199, 9), 1);
     }
 
     private static void ofBatch() {

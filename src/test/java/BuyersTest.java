@@ -192,6 +192,28 @@ public final class BuyersTest {
         Check.due("22: then the most pieces", x.planned(19), 3);
     }
 
+    /** No run of 512 calls comes so far, but no call may throw even then. */
+    private static void fullOfRows() {
+        DuskShelves x = market(12);
+        for (int i = 1; i < 10; i++) {
+            x.kind(100, 40, 10, 0);
+        }
+        x.hours(6);
+        for (int i = 0; i < 600; i++) {
+            x.buy(i / 10 % 12, i % 10, 1);
+            if (i % 120 == 119) {
+                x.hours(1);
+            }
+        }
+        Check.due("19: ROWS", x.count(3), 600);
+        Check.due("19: one more", x.buy(0, 0, 1), DuskShelves.FULL);
+        Check.due("40: LACK", x.count(13), 600);
+        Check.due("20: of 600 ROWS", x.foretold(0, 0, 700, 0), 1);
+        Check.due("31: of 600 ROWS", x.early(0, 0, 0, 0), 5);
+        Check.due("24: of 600 ROWS", x.order(0, 0, 0, 0), 5);
+        Check.due("21: of 600 ROWS", x.plan(0, 0), 0);
+    }
+
     public static void main(String[] args) {
         buy();
         eldestFirst();
@@ -199,6 +221,7 @@ public final class BuyersTest {
         planBounds();
         planCuts();
         planTies();
+        fullOfRows();
         Check.end("BuyersTest");
     }
 }

@@ -99,6 +99,8 @@ public final class GiftsBinsLotsTest {
             Check.due("35: bin", x.bin(1, 1, 1), 999 - i);
         }
         Check.due("35: 400 such calls were", x.bin(1, 1, 1), FULL);
+        Check.due("37: of so many calls", x.isBad(1, 0, 0), 1);
+        Check.due("38: of so many calls", x.since(1, 1), NOT);
         Check.due("35: NOT ahead of FULL", x.bin(1, 999, 1), NOT);
         Check.due("35: BAD ahead of both", x.bin(1, 0, 1), BAD);
         Check.due("35: others may be still", x.bin(1, 600, 0), 0);

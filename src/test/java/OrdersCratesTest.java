@@ -210,9 +210,24 @@ public final class OrdersCratesTest {
         Check.due("29: nothing there", x.shelf(1, 0, 0), 0);
         Check.due("29: two are not", x.move(0, 1, 0, 4), 4);
         Check.due("29: FULL", x.move(0, 1, 0, 1), FULL);
-        Check.due("29: NOT ahead of FULL", x.move(0, 1, 0, 0), BAD);
+        Check.due("29: BAD ahead of FULL", x.move(0, 1, 0, 0), BAD);
         Check.law(x, 0, 0, "0");
         Check.due("29: NOT ahead of FULL", x.move(0, 1, 0, 1), NOT);
+    }
+
+    private static void moveJustFits() {
+        DuskShelves x = new DuskShelves();
+        x.shop(0);
+        x.shop(9);
+        x.kind(9, 4, 1, 0);
+        x.kind(9, 4, 1, 0);
+        for (int i = 0; i < 198; i++) {
+            x.batch(0, i < 196 ? 0 : 100, 0, 2);
+        }
+        Check.due("29: 392 of a kind stand in line", x.shelf(0, 0, 1), 392);
+        Check.due("29: all there are, in the last two BATCHES", x.move(0, 1, 1, 999), 4);
+        Check.due("29: BATCHES", x.count(2), 200);
+        Check.due("29: the other kind is as it was", x.shelf(0, 0, 0), 392);
     }
 
     public static void main(String[] args) {
@@ -223,6 +238,7 @@ public final class OrdersCratesTest {
         tooBig();
         move();
         moveFull();
+        moveJustFits();
         Check.end("OrdersCratesTest");
     }
 }

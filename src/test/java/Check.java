@@ -1,19 +1,40 @@
 import java.util.ArrayList;
 import java.util.List;
+import java.util.function.IntToLongFunction;
 
 /** Counts and prints the answers that are not due. */
 final class Check {
+    private static String context = "";
     private static int wrong = 0;
     private static int all = 0;
 
     private Check() {
     }
 
+    /** What stands ahead of each answer that is not due, from now on. */
+    static void about(String what) {
+        context = what;
+    }
+
+    static int checked() {
+        return all;
+    }
+
     static void due(String call, long got, long want) {
         all++;
         if (got != want) {
             wrong++;
-            System.out.println(call + ": answered " + got + ", due is " + want);
+            System.out.println(context + call + ": answered " + got + ", due is " + want);
+        }
+    }
+
+    /** Both sides of both ends of a number: the least and the most are taken, those beside are refused. */
+    static void bounds(String call, int low, int high, long refusal, IntToLongFunction asked) {
+        for (int v : new int[] {Integer.MIN_VALUE, low - 1, high + 1, Integer.MAX_VALUE}) {
+            due(call + " with " + v + " as *", asked.applyAsLong(v), refusal);
+        }
+        for (int v : new int[] {low, high}) {
+            due(call + " refuses " + v + " as *", asked.applyAsLong(v) == refusal ? 1 : 0, 0);
         }
     }
 

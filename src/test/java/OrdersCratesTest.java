@@ -82,7 +82,7 @@ public final class OrdersCratesTest {
         x = weeks(9999, 0);
         for (int i = 0; i < 230; i++) {
             x.buy(0, 0, 999);
-            x.hours(x.count(5) % 24 == 19 ? 155 : 1);
+            x.hours(i % 14 == 13 ? 155 : 1);
         }
         Check.due("25: a long", x.loss(0, 0, 0, 1499, 0), 230L * 999 * 9999);
     }

@@ -10,7 +10,7 @@ import java.util.Random;
 
 /** The same drawn calls on DuskShelves and on Model: every answer must be the same. */
 public final class RandomRunsTest {
-    private static final int RUNS = 600, CALLS = 512;
+    private static final int RUNS = 600, CALLS = 512, COUNTS = 14, CALLS_OF_A_LAW = 11;
 
     /** Calls that tell something of one another only if they come often in one run. */
     private static final String[] FOCUSES = {
@@ -236,7 +236,7 @@ public final class RandomRunsTest {
         for (int i = 0; i < shops && same; i++) same = both(x, model, log, "shop", args("shop", model));
         for (int i = 0; i < goods && same; i++) same = both(x, model, log, "kind", args("kind", model));
         int lawless = random.nextBoolean() ? 400 : 10 + upTo(60);
-        while (same && log.size() < CALLS) {
+        while (same && log.size() <= CALLS - COUNTS - CALLS_OF_A_LAW) {
             if (random.nextInt(lawless) == 0) {
                 same = makeLaw(x, model, log);
             } else {
@@ -244,7 +244,7 @@ public final class RandomRunsTest {
                 same = both(x, model, log, name, args(name, model));
             }
         }
-        for (int what = 0; what < 14 && same; what++) same = both(x, model, log, "count", what);
+        for (int what = 0; what < COUNTS && same; what++) same = both(x, model, log, "count", what);
         return same;
     }
 

@@ -12,8 +12,8 @@ final class AnswerEdges {
     }
 
     static void all() {
-        Sentence.test(40, "Answers, of several the one named first: BAD (-1): no such shop, kind, batch, kitchen, or a number "
-            + "is not as said; NOT (-2): as told; FULL (-3); BIG (-4).", AnswerEdges::theFirstNamed);
+        Sentence.test(40, "Answers, of several the one named first: BAD (-1): no such shop, kind, batch, kitchen, or "
+            + "a number is not as said; NOT (-2): as told; FULL (-3); BIG (-4).", AnswerEdges::theFirstNamed);
         Sentence.test(40, "VOID is -2000000000.", AnswerEdges::voids);
         Sentence.test(40, "What is answered so changes nothing.", AnswerEdges::nothingChanges);
     }

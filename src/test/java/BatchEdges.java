@@ -106,7 +106,8 @@ final class BatchEdges {
     }
 
     private static void eldest() {
-        Sentence.test(19, "What is bought, moved or given of a SHOP and KIND goes eldest first: by MADE, then by BATCH.",
+        Sentence.test(19, "What is bought, moved or given of a SHOP and KIND goes eldest first: by MADE, then by "
+            + "BATCH.",
             () -> {
                 int[][] due = {{0, 0, 1, 0}, {0, 0, 2, 0}, {0, 0, 2, 1}, {0, 0, 2, 2}, {1, 0, 2, 2}, {2, 0, 2, 2},
                     {2, 1, 2, 2}, {2, 2, 2, 2}, {2, 2, 2, 2}};
@@ -215,8 +216,8 @@ final class BatchEdges {
     }
 
     private static void ofBatch() {
-        Sentence.test(12, "Of a BATCH: 0 SHOP, 1 KIND, 2 LOT, 3 the DAY when it was MADE, 4 pieces, 5 on the shelf, "
-            + "6 SOLD, 7 MOVED, 8 GIVEN, 9 THROWN, 10 of these EARLY SPOILED, 11 FROM (-1), 12 the first one.", () -> {
+        Sentence.test(12, "Of a BATCH: 0 SHOP, 1 KIND, 2 LOT, 3 the DAY when it was MADE, 4 pieces, 5 on the shelf, 6 "
+            + "SOLD, 7 MOVED, 8 GIVEN, 9 THROWN, 10 of these EARLY SPOILED, 11 FROM (-1), 12 the first one.", () -> {
             DuskShelves x = Worlds.shops(3, 3, 6);
             x.kind(10, 1, 1, 0);
             x.kitchen(0, 23);
@@ -259,7 +260,8 @@ final class BatchEdges {
     }
 
     private static void shelf() {
-        Sentence.test(13, "What is on the shelf of a SHOP's KIND (what 0), MAY BE SOLD (1), MAY BE GIVEN (2).", () -> {
+        Sentence.test(13, "What is on the shelf of a SHOP's KIND (what 0), MAY BE SOLD (1), MAY BE GIVEN "
+            + "(2).", () -> {
             DuskShelves x = Worlds.shops(2);
             x.kind(1, 1, 1, 0);
             for (int what = 0; what <= 2; what++) {
@@ -302,7 +304,8 @@ final class BatchEdges {
     }
 
     private static void mayBe() {
-        Sentence.test(13, "MAY BE SOLD: a piece of a BATCH of which SELL in force TODAY AS KNOWN TODAY is not 0;", () -> {
+        Sentence.test(13, "MAY BE SOLD: a piece of a BATCH of which SELL in force TODAY AS KNOWN TODAY is not "
+            + "0;", () -> {
             Check.due("0", shelfBy(0, 0, "0", 1), 0);
             Check.due("1", shelfBy(0, 0, "1", 1), 7);
             Check.due("2", shelfBy(0, 0, "2", 1), 7);
@@ -325,8 +328,8 @@ final class BatchEdges {
             Check.due("from tomorrow on", shelfBy(1, 2, "0", 2), 7);
             Check.due("a LAW of SELL", shelfBy(0, 0, "0", 2), 7);
         });
-        Sentence.test(19, "Just what MAY BE SOLD is bought or moved, just what MAY BE GIVEN is given; all else is on the "
-            + "shelf till it is THROWN.", () -> {
+        Sentence.test(19, "Just what MAY BE SOLD is bought or moved, just what MAY BE GIVEN is given; all else is on "
+            + "the shelf till it is THROWN.", () -> {
             DuskShelves x = Worlds.shops(2, 2, 6);
             x.kitchen(0, 23);
             for (int made = 0; made < 3; made++) {

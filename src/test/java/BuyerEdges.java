@@ -31,8 +31,8 @@ final class BuyerEdges {
     }
 
     private static void buy() {
-        Sentence.test(19, "BUYERS come to a SHOP in an HOUR for a KIND: so many pieces are asked for (told); bought are as "
-            + "many as MAY BE SOLD, at the STEP as it is.", () -> {
+        Sentence.test(19, "BUYERS come to a SHOP in an HOUR for a KIND: so many pieces are asked for (told); bought "
+            + "are as many as MAY BE SOLD, at the STEP as it is.", () -> {
             for (int asked = 4; asked <= 6; asked++) {
                 DuskShelves x = Worlds.shops(1, 1, 6);
                 x.batch(0, 0, 0, 5);
@@ -126,8 +126,8 @@ final class BuyerEdges {
     }
 
     private static void rows() {
-        Sentence.test(19, "Each telling is a ROW: SHOP, KIND, hour of the DAY, STEP, WEATHER (as it is then), DAY, asked, "
-            + "bought (", () -> {
+        Sentence.test(19, "Each telling is a ROW: SHOP, KIND, hour of the DAY, STEP, WEATHER (as it is then), DAY, "
+            + "asked, bought (", () -> {
             DuskShelves x = Worlds.shops(2, 2, 6);
             x.kind(1, 1, 1, 0);
             x.weather(2, 2);
@@ -208,8 +208,8 @@ final class BuyerEdges {
     }
 
     private static void foretold() {
-        Sentence.test(20, "FORETOLD for a SHOP, KIND, hour, STEP and WEATHER AS KNOWN on DAY k: the mean of what was asked in "
-            + "ROWS of DAYS up to k of the same KIND, hour and STEP:", () -> {
+        Sentence.test(20, "FORETOLD for a SHOP, KIND, hour, STEP and WEATHER AS KNOWN on DAY k: the mean of what was "
+            + "asked in ROWS of DAYS up to k of the same KIND, hour and STEP:", () -> {
             DuskShelves x = Worlds.shops(1);
             x.kind(1, 1, 1, 0);
             Worlds.ask(x, 0, 1, 6, 10);
@@ -316,9 +316,35 @@ final class BuyerEdges {
         });
     }
 
+    /** SHOP 2 and KIND 1, beside SHOP 1 of the same KIND and KIND 2 of the same SHOP. */
+    private static void planOfOne() {
+        DuskShelves x = Worlds.shops(3);
+        x.kind(50, 20, 1, 0);
+        x.kind(1, 9, 1, 0);
+        x.throwing(1, 4);
+        x.throwing(2, 9990);
+        for (int day = 0; day < 3; day++) {
+            Worlds.until(x, day, 19);
+            x.buy(2, 1, 5);
+            x.buy(1, 1, 9);
+            x.buy(2, 2, 13);
+        }
+        Worlds.until(x, 3, 19);
+        x.batch(2, 100, 0, 6);
+        x.batch(1, 100, 0, 20);
+        x.batch(2, 200, 0, 30);
+        x.cut(1, 1, 2);
+        x.cut(2, 2, 3);
+        Check.due("WORTH of SHOP 2 and KIND 1", x.plan(2, 1), 5 * 50 - 4);
+        Check.due("its STEP", x.planned(19), 0);
+        Check.due("left of it", x.left(), 1);
+        Check.due("WORTH of SHOP 1", x.plan(1, 1), -20 * 4);
+        Check.due("WORTH of KIND 2", x.plan(2, 2), -30 * 9990);
+    }
+
     private static void planWhen() {
-        Sentence.test(21, "THE PLAN of cuts for a SHOP and KIND from now on (an HOUR in which it is open, which has not its "
-            + "ROW yet):", () -> {
+        Sentence.test(21, "THE PLAN of cuts for a SHOP and KIND from now on (an HOUR in which it is open, which has "
+            + "not its ROW yet):", () -> {
             DuskShelves x = Worlds.shops(2, 0, 5);
             x.kind(1, 1, 1, 0);
             Check.due("at 5", x.plan(0, 0), VOID);
@@ -332,6 +358,7 @@ final class BuyerEdges {
             Check.due("at 19", x.plan(0, 0), 0);
             x.hours(1);
             Check.due("at 20", x.plan(0, 0), VOID);
+            planOfOne();
         });
         Sentence.test(21, "THE PLAN: WORTH.", () -> {
             DuskShelves x = tables(new int[] {3, 0, 0, 0}, new int[] {2, 0, 0, 0});
@@ -429,8 +456,8 @@ final class BuyerEdges {
     }
 
     private static void planWorth() {
-        Sentence.test(21, "of each HOUR as much is bought as FORETOLD (with TODAY's WEATHER, AS KNOWN TODAY), or what is left "
-            + "of what MAY BE SOLD now;", () -> {
+        Sentence.test(21, "of each HOUR as much is bought as FORETOLD (with TODAY's WEATHER, AS KNOWN TODAY), or what "
+            + "is left of what MAY BE SOLD now;", () -> {
             int[][] due = {{0, 0, 0}, {1, 100, 0}, {2, 200, 0}, {3, 300, 0}, {4, 400, 0}, {5, 500, 0}, {6, 500, 1}};
             for (int[] d : due) {
                 DuskShelves x = tables(new int[] {3, 0, 0, 0}, new int[] {2, 0, 0, 0});
@@ -462,8 +489,8 @@ final class BuyerEdges {
             z.buy(1, 0, 5);
             Check.due("known TODAY, of this HOUR in another SHOP", z.plan(0, 0), 500);
         });
-        Sentence.test(21, "WORTH is what these bring, less THROW (0 .. 9999, told of a KIND; 0 at first) for each piece left "
-            + "behind 19.", () -> {
+        Sentence.test(21, "WORTH is what these bring, less THROW (0 .. 9999, told of a KIND; 0 at first) for each "
+            + "piece left behind 19.", () -> {
             DuskShelves x = tables(new int[] {1, 0, 0, 0}, new int[] {1, 2, 0, 0});
             x.batch(0, 0, 0, 2);
             x.throwing(0, 9999);
@@ -507,8 +534,8 @@ final class BuyerEdges {
     }
 
     private static void planned() {
-        Sentence.test(22, "The STEP of an HOUR (of the DAY: from that of the plan to 19) in the latest plan() that was not "
-            + "VOID.", () -> {
+        Sentence.test(22, "The STEP of an HOUR (of the DAY: from that of the plan to 19) in the latest plan() that "
+            + "was not VOID.", () -> {
             DuskShelves x = tables(new int[] {1, 0, 0, 0}, new int[] {0, 9, 0, 0});
             x.batch(0, 0, 0, 50);
             x.plan(0, 0);

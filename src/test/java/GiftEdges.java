@@ -72,7 +72,8 @@ final class GiftEdges {
     }
 
     private static void onTheWay() {
-        Sentence.test(34, "GIFT: n pieces of a KIND from a SHOP to a KITCHEN now: on the way MILES / 10 HOURS (up);", () -> {
+        Sentence.test(34, "GIFT: n pieces of a KIND from a SHOP to a KITCHEN now: on the way MILES / 10 HOURS "
+            + "(up);", () -> {
             int[][] due = {{0, 0}, {1, 1}, {9, 1}, {10, 1}, {11, 2}, {20, 2}, {21, 3}, {99, 10}};
             for (int[] d : due) {
                 DuskShelves x = stocked(0, 6);
@@ -83,6 +84,12 @@ final class GiftEdges {
                 x.kitchen(d[0], 5 + d[1]);
                 Check.due(d[0] + " MILES in an HOUR less", x.gift(0, 0, 2, 1), NOT);
             }
+            DuskShelves z = stocked(0, 6);
+            z.shop(30);
+            z.batch(1, 7, 0, 1);
+            z.kitchen(30, 6);
+            Check.due("from the SHOP beside it", z.gift(1, 0, 0, 1), 1);
+            Check.due("from the SHOP far away", z.gift(0, 0, 0, 1), NOT);
             DuskShelves y = stocked(9999, 0);
             y.kitchen(0, 20);
             y.kitchen(0, 19);
@@ -178,7 +185,8 @@ final class GiftEdges {
     }
 
     private static void bin() {
-        Sentence.test(35, "n pieces of a BATCH are THROWN (spoiled 1: EARLY SPOILED): how many are on its shelf still.", () -> {
+        Sentence.test(35, "n pieces of a BATCH are THROWN (spoiled 1: EARLY SPOILED): how many are on its shelf "
+            + "still.", () -> {
             Check.bounds("bin(0, 1, *)", 0, 1, BAD, v -> stocked(0, 0).bin(0, 1, v));
             DuskShelves x = stocked(0, 0);
             Check.due("one", x.bin(0, 1, 0), 49);
@@ -239,8 +247,8 @@ final class GiftEdges {
     }
 
     private static void thrown() {
-        Sentence.test(7, "THROWN: pieces of a BATCH, by a call; and when a DAY begins (STEPS and WARM HOURS are 0 first) all on "
-            + "shelves that MAY not BE SOLD then.", () -> {
+        Sentence.test(7, "THROWN: pieces of a BATCH, by a call; and when a DAY begins (STEPS and WARM HOURS are 0 "
+            + "first) all on shelves that MAY not BE SOLD then.", () -> {
             DuskShelves x = Worlds.shops(2);
             x.batch(0, 0, 0, 9);
             x.batch(1, 0, 0, 9);
@@ -345,10 +353,12 @@ final class GiftEdges {
     }
 
     private static void lots() {
-        Sentence.test(37, "A LOT of a KIND is BAD AS KNOWN on DAY k: of all pieces of its first BATCHES that came by then (FROM "
-            + "none) more than a 10th, and 3 at least, were EARLY SPOILED by then (in whatever SHOP);", () -> {
+        Sentence.test(37, "A LOT of a KIND is BAD AS KNOWN on DAY k: of all pieces of its first BATCHES that came by "
+            + "then (FROM none) more than a 10th, and 3 at least, were EARLY SPOILED by then (in whatever "
+            + "SHOP);", () -> {
             int[][] due = {{1, 1, 0}, {2, 2, 0}, {3, 3, 1}, {9, 2, 0}, {9, 3, 1}, {29, 3, 1}, {30, 3, 0}, {31, 3, 0},
-                {39, 4, 1}, {40, 4, 0}, {40, 5, 1}, {990, 99, 0}, {990, 100, 1}, {989, 99, 1}, {999, 99, 0}, {999, 100, 1}};
+                {39, 4, 1}, {40, 4, 0}, {40, 5, 1}, {990, 99, 0}, {990, 100, 1}, {989, 99, 1},
+                {999, 99, 0}, {999, 100, 1}};
             for (int[] d : due) {
                 Check.due(d[1] + " of " + d[0], badOf(d[0], d[1]), d[2]);
             }
@@ -471,8 +481,9 @@ final class GiftEdges {
     }
 
     private static void count() {
-        Sentence.test(40, "How many: 0 SHOPS, 1 KINDS, 2 BATCHES, 3 ROWS, 4 LAWS, 5 HOUR, 6 KITCHENS, 7 bytes on THE TAPE, 8 "
-            + "what ORDERS cost, 9 pieces on all shelves, 10 SOLD, 11 GIVEN, 12 THROWN, 13 LACK in all.", () -> {
+        Sentence.test(40, "How many: 0 SHOPS, 1 KINDS, 2 BATCHES, 3 ROWS, 4 LAWS, 5 HOUR, 6 KITCHENS, 7 bytes on THE "
+            + "TAPE, 8 what ORDERS cost, 9 pieces on all shelves, 10 SOLD, 11 GIVEN, 12 THROWN, 13 LACK in "
+            + "all.", () -> {
             DuskShelves x = Worlds.shops(5, 0, 6);
             x.kind(1, 1, 1, 0);
             x.kitchen(0, 23);

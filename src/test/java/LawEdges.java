@@ -22,9 +22,9 @@ final class LawEdges {
     }
 
     private static void laws() {
-        Sentence.test(17, "LAWS are TEXTS of a USE: 0 SELL, 1 GIVE; made on a DAY, for DAYS from one on; in force on a DAY "
-            + "AS KNOWN on DAY k: of that USE those made on DAY k or ahead, for that DAY or an earlier one: the one made "
-            + "last.", () -> {
+        Sentence.test(17, "LAWS are TEXTS of a USE: 0 SELL, 1 GIVE; made on a DAY, for DAYS from one on; in force on "
+            + "a DAY AS KNOWN on DAY k: of that USE those made on DAY k or ahead, for that DAY or an earlier one: the "
+            + "one made last.", () -> {
             DuskShelves x = Worlds.shops(0, 5, 0);
             Check.law(x, 0, 10, "1");
             Check.due("a DAY ahead of its first DAY", x.inForce(0, 9, 5), NOT);
@@ -134,6 +134,8 @@ final class LawEdges {
             Worlds.fault("1&", 2);
             Worlds.fault("1&&2", 2);
             Worlds.value("1&1&0", 0);
+            Worlds.value("1|1&0", 1);
+            Worlds.value("(1|1)&0", 0);
             Worlds.value("1&0=0", 1);
             Worlds.value("0=1&0", 0);
             Worlds.good("1" + "&1".repeat(79));
@@ -165,6 +167,8 @@ final class LawEdges {
             Worlds.value("7-2-3", 2);
             Worlds.value("7-2+3", 8);
             Worlds.value("7+2-3", 6);
+            Worlds.value("7-2*3", 1);
+            Worlds.value("7+2*3", 13);
             Worlds.fault("+1", 0);
             Worlds.fault("-1", 0);
             Worlds.fault("1+", 2);
@@ -469,7 +473,8 @@ final class LawEdges {
     }
 
     private static void feed() {
-        Sentence.test(14, "Twenty bytes more come to THE TAPE, the highest of each number first: how many it has.", () -> {
+        Sentence.test(14, "Twenty bytes more come to THE TAPE, the highest of each number first: how many it "
+            + "has.", () -> {
             DuskShelves x = Worlds.shops(1);
             x.batch(0, 0, 0, 1);
             // 9876-5432+10*20-1+02
@@ -478,6 +483,8 @@ final class LawEdges {
             Check.due("as it reads", x.says(0, 0), 4645);
             Check.due("the first byte", x.feed(0xff313131, 0, 0, 0, 0), 20);
             Check.due("its FAULT", x.law(0, 0), -100);
+            Check.due("a byte of 128 and more", x.feed(0x31b13131, 0, 0, 0, 0), 20);
+            Check.due("is not the one of 128 less", x.law(0, 0), -101);
             Check.due("the last byte", x.feed(0x31313131, 0x2b313131, 0x312b3131, 0x31312b31, 0x313131ff), 20);
             Check.due("its FAULT", x.law(0, 0), -119);
             x.feed(0x312b3128, 0x31292b31, 0, 0, 0);
@@ -527,7 +534,8 @@ final class LawEdges {
     }
 
     private static void law() {
-        Sentence.test(16, "THE TAPE becomes a LAW of a USE for DAYS from one on, made TODAY: its number (0 .. 15);", () -> {
+        Sentence.test(16, "THE TAPE becomes a LAW of a USE for DAYS from one on, made TODAY: its number (0 .. "
+            + "15);", () -> {
             DuskShelves x = Worlds.shops(0, 5, 0);
             for (int i = 0; i <= 15; i++) {
                 Check.due("LAW " + i, Check.law(x, i % 2, 5 + i, "1"), i);
@@ -535,6 +543,11 @@ final class LawEdges {
             Check.due("LAW 16", Check.law(x, 0, 0, "1"), FULL);
             Check.due("made TODAY", x.inForce(0, 5, 5), 0);
             Check.due("not yesterday", x.inForce(0, 5, 4), NOT);
+            Check.due("made TODAY for later DAYS", x.inForce(0, 1499, 5), 14);
+            DuskShelves y = Worlds.shops(0, 5, 0);
+            Check.law(y, 0, 0, "1");
+            Check.due("made TODAY for DAYS ahead", y.inForce(0, 0, 5), 0);
+            Check.due("not yesterday for these", y.inForce(0, 0, 4), NOT);
             Check.due("the last of SELL", x.inForce(0, 1499, 1499), 14);
             Check.due("the last of GIVE", x.inForce(1, 1499, 1499), 15);
             Check.due("a DAY ahead of the last of GIVE", x.inForce(1, 19, 1499), 13);

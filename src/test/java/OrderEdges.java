@@ -30,8 +30,9 @@ final class OrderEdges {
     }
 
     private static void mornings() {
-        Sentence.test(24, "MORNING ORDERS: for a SHOP, KIND, WEATHER and a DAY of the week (DAY % 7), AS KNOWN on DAY k: of "
-            + "the ROWS of that SHOP, KIND and WEATHER, of DAYS up to k of that DAY of the week: the sum asked on each DAY;",
+        Sentence.test(24, "MORNING ORDERS: for a SHOP, KIND, WEATHER and a DAY of the week (DAY % 7), AS KNOWN on DAY "
+            + "k: of the ROWS of that SHOP, KIND and WEATHER, of DAYS up to k of that DAY of the week: the sum asked "
+            + "on each DAY;",
             () -> {
                 DuskShelves x = Worlds.shops(2);
                 x.kind(100, 40, 1, 0);
@@ -56,6 +57,7 @@ final class OrderEdges {
                 x.buy(0, 0, 9);
                 Check.due("the fair ROWS of that DAY", x.loss(0, 0, 60, 13, 0), 27 * 60);
                 Check.due("the hot ROW of that DAY", x.loss(0, 0, 62, 13, 0), 9 * 60);
+                ordersOfOne();
             });
         Sentence.test(24, "Without such DAYS 0.", () -> {
             DuskShelves x = weeks(100, 40);
@@ -66,6 +68,26 @@ final class OrderEdges {
             Check.due("its LOSS of 999", y.loss(0, 0, 0, 0, 999), 999 * 40);
             Check.due("its LOSS of 0", y.loss(0, 0, 0, 0, 0), 0);
         });
+    }
+
+    /** SHOP 2 and KIND 1, beside SHOP 1 of the same KIND and KIND 2 of the same SHOP. */
+    private static void ordersOfOne() {
+        DuskShelves x = Worlds.shops(3);
+        x.kind(50, 20, 1, 0);
+        x.kind(1, 9, 1, 0);
+        x.throwing(1, 4);
+        x.throwing(2, 9990);
+        for (int week = 0; week < 2; week++) {
+            Worlds.until(x, 7 * week, 6);
+            x.buy(2, 1, 7 + 13 * week);
+            x.buy(1, 1, 100);
+            x.buy(2, 2, 200);
+        }
+        Check.due("LACK of its own", x.loss(2, 1, 0, 0, 0), 7 * 30);
+        Check.due("waste of its own", x.loss(2, 1, 0, 0, 10), 3 * 24);
+        Check.due("the ORDER of SHOP 2 and KIND 1", x.order(2, 1, 0, 7), 20);
+        Check.due("the ORDER of SHOP 1", x.order(1, 1, 0, 7), 100);
+        Check.due("the ORDER of KIND 2", x.order(2, 2, 0, 7), 0);
     }
 
     private static void order() {
@@ -98,7 +120,8 @@ final class OrderEdges {
     }
 
     private static void lossParts() {
-        Sentence.test(25, "over these DAYS LACK COST (PRICE less COST, 0 at least) for each piece asked above q,", () -> {
+        Sentence.test(25, "over these DAYS LACK COST (PRICE less COST, 0 at least) for each piece asked above "
+            + "q,", () -> {
             DuskShelves x = weeks(41, 40, 5);
             Check.due("LACK COST 1, five above 0", x.loss(0, 0, 0, 0, 0), 5);
             Check.due("one above 4", x.loss(0, 0, 0, 0, 4), 1);
@@ -217,8 +240,8 @@ final class OrderEdges {
             x.crates(0, 0, -1);
             Check.due("a refused n is not taken", x.crates(0, 0, 0), 3);
         });
-        Sentence.test(27, "CRATES: of a KIND, at an HOUR: SHOPS that have more than they need (told numbers SPARE) and such "
-            + "as need (told NEED), in crates (0 .. 3 each; 6 of NEED together at most, else BIG):", () -> {
+        Sentence.test(27, "CRATES: of a KIND, at an HOUR: SHOPS that have more than they need (told numbers SPARE) "
+            + "and such as need (told NEED), in crates (0 .. 3 each; 6 of NEED together at most, else BIG):", () -> {
             DuskShelves x = Worlds.shops(12);
             for (int s = 0; s < 12; s++) {
                 x.crates(s, 0, 3);
@@ -243,7 +266,8 @@ final class OrderEdges {
             for (int[] d : due) {
                 way(d[0] + " to " + d[1], street(numbers(d[0], d[1]), numbers(1, 0), numbers(0, 1)), d[2], 0);
             }
-            way("three of the longest", street(numbers(0, 9999, 9999), numbers(3, 0, 0), numbers(0, 3, 0)), 594, 0, 0, 0);
+            way("three of the longest", street(numbers(0, 9999, 9999), numbers(3, 0, 0), numbers(0, 3, 0)), 594,
+                0, 0, 0);
             way("six of the longest", street(numbers(0, 0, 9999, 9999), numbers(3, 3, 0, 0), numbers(0, 0, 3, 3)), 1188,
                 0, 0, 0, 1, 1, 1);
         });
@@ -266,11 +290,12 @@ final class OrderEdges {
                 1, 0);
             way("not the nearest one first", street(numbers(4, 7, 5, 1), numbers(1, 1, 0, 0), numbers(0, 0, 1, 1)), 5,
                 1, 0);
-            way("the near NEED, not the first", street(numbers(0, 9, 3), numbers(1, 0, 0), numbers(0, 1, 1)), 3, NOT, 0);
+            way("the near NEED, not the first", street(numbers(0, 9, 3), numbers(1, 0, 0), numbers(0, 1, 1)), 3,
+                NOT, 0);
             way("one MILE less", street(numbers(5, 9, 8), numbers(0, 1, 1), numbers(1, 0, 0)), 3, 2);
         });
-        Sentence.test(27, "of several the first (by NEED crates, SHOP by SHOP in order, the lesser SHOP from which it comes, "
-            + "none last).", () -> {
+        Sentence.test(27, "of several the first (by NEED crates, SHOP by SHOP in order, the lesser SHOP from which it "
+            + "comes, none last).", () -> {
             way("the lesser SHOP", street(numbers(5, 4, 6), numbers(0, 1, 1), numbers(1, 0, 0)), 1, 1);
             way("the lesser SHOP to the first crate", street(numbers(5, 5, 5), numbers(1, 1, 0), numbers(0, 0, 2)), 0,
                 0, 1);
@@ -321,7 +346,8 @@ final class OrderEdges {
     }
 
     private static void comes() {
-        Sentence.test(28, "Of the latest ways() that was not BIG: from which SHOP NEED crate i (SHOP by SHOP) comes;", () -> {
+        Sentence.test(28, "Of the latest ways() that was not BIG: from which SHOP NEED crate i (SHOP by SHOP) "
+            + "comes;", () -> {
             DuskShelves x = street(numbers(0, 9, 8, 1), numbers(0, 3, 0, 3), numbers(2, 0, 1, 0));
             way("crates 0 and 1 of SHOP 0, 2 of SHOP 2", x, 3, 3, 3, 1);
             x.crates(0, 1, 0);
@@ -360,8 +386,8 @@ final class OrderEdges {
     }
 
     private static void move() {
-        Sentence.test(29, "n (1 .. 999) pieces of a KIND are MOVED from a SHOP to another one: how many (those that MAY BE "
-            + "SOLD, n at most):", () -> {
+        Sentence.test(29, "n (1 .. 999) pieces of a KIND are MOVED from a SHOP to another one: how many (those that "
+            + "MAY BE SOLD, n at most):", () -> {
             Check.bounds("move(0, 1, 0, *)", 1, 999, BAD, v -> eldest(999).move(0, 1, 0, v));
             for (int n : new int[] {1, 4, 5, 6, 999}) {
                 DuskShelves x = eldest(5);
@@ -380,7 +406,8 @@ final class OrderEdges {
             y.batch(0, 100, 0, 3);
             Check.due("none of another KIND", y.move(0, 1, 0, 1), NOT);
         });
-        Sentence.test(29, "each BATCH of which some are becomes a BATCH there (eldest first, as they are taken).", () -> {
+        Sentence.test(29, "each BATCH of which some are becomes a BATCH there (eldest first, as they are "
+            + "taken).", () -> {
             int[][] due = {{1, 1}, {2, 1}, {3, 2}, {4, 2}, {5, 3}, {6, 3}, {7, 3}};
             for (int[] d : due) {
                 DuskShelves x = eldest(2);

@@ -62,7 +62,7 @@ final class Sentence {
         int before = Check.checked();
         try {
             body.run();
-        } catch (RuntimeException e) {
+        } catch (RuntimeException | StackOverflowError e) {
             e.printStackTrace(System.out);
             Check.due("threw " + e, 1, 0);
         }
@@ -81,7 +81,7 @@ final class Sentence {
 
     static void allAreQuoted() {
         for (int part = TERMS; part <= PROMISES; part++) {
-            Check.about("Promise " + part + ": ");
+            Check.about(part == TERMS ? "The terms: " : "Promise " + part + ": ");
             Check.due("is in the document", parts.containsKey(part) ? 1 : 0, 1);
             if (parts.containsKey(part)) {
                 tellUnquoted(parts.get(part).toString(), quoted.get(part));

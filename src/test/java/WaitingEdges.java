@@ -39,7 +39,8 @@ final class WaitingEdges {
     }
 
     private static void drawn() {
-        Sentence.test(30, "WAITING: SHOPS are drawn: some CUT early (told 1), others not (0), or none (-1; at first).", () -> {
+        Sentence.test(30, "WAITING: SHOPS are drawn: some CUT early (told 1), others not (0), or none (-1; at "
+            + "first).", () -> {
             DuskShelves x = asked(5, 9, 100);
             for (int s = 0; s < 3; s++) {
                 Check.due("at first", x.drawn(s, -1), -1);
@@ -73,8 +74,8 @@ final class WaitingEdges {
     }
 
     private static void early() {
-        Sentence.test(31, "For a KIND: EARLY of a SHOP: the sum of what was asked in ROWS of hours 6 to 13 on DAYS from a to "
-            + "b.", () -> {
+        Sentence.test(31, "For a KIND: EARLY of a SHOP: the sum of what was asked in ROWS of hours 6 to 13 on DAYS "
+            + "from a to b.", () -> {
             DuskShelves x = Worlds.shops(2, 2, 0);
             x.kind(1, 1, 1, 0);
             x.batch(0, 0, 0, 1);
@@ -121,13 +122,16 @@ final class WaitingEdges {
     }
 
     private static void gap() {
-        Sentence.test(32, "GAP: the mean of EARLY of those not CUT less that of CUT ones (told: times 100, toward 0).", () -> {
+        Sentence.test(32, "GAP: the mean of EARLY of those not CUT less that of CUT ones (told: times 100, toward "
+            + "0).", () -> {
             Check.due("a third", gapOf(draw(asked(0, 0, 0, 1), 1, 0, 0, 0)), 33);
             Check.due("two thirds", gapOf(draw(asked(0, 0, 1, 1), 1, 0, 0, 0)), 66);
             Check.due("a third less", gapOf(draw(asked(0, 0, 0, 1), 0, 1, 1, 1)), -33);
             Check.due("two thirds less", gapOf(draw(asked(0, 0, 1, 1), 0, 1, 1, 1)), -66);
             Check.due("a whole", gapOf(draw(asked(0, 1), 1, 0)), 100);
             Check.due("none", gapOf(draw(asked(4, 4), 1, 0)), 0);
+            Check.due("a half less a third", gapOf(draw(asked(0, 0, 1, 0, 1), 1, 1, 1, 0, 0)), 16);
+            Check.due("a third less a half", gapOf(draw(asked(0, 1, 0, 0, 1), 1, 1, 0, 0, 0)), -16);
             Check.due("two means", gapOf(draw(asked(1, 2, 4, 4, 5), 1, 1, 0, 0, 0)), 283);
             Check.due("the most", gapOf(draw(asked(0, 999), 1, 0)), 99900);
             Check.due("the least", gapOf(draw(asked(999, 0), 1, 0)), -99900);
@@ -148,8 +152,8 @@ final class WaitingEdges {
     }
 
     private static void doubt() {
-        Sentence.test(32, "DOUBT: of all ways to draw as many CUT ones of the SHOPS that were drawn: in how many 10000ths (up) "
-            + "GAP (as a fraction: not rounded) is as great or greater.", () -> {
+        Sentence.test(32, "DOUBT: of all ways to draw as many CUT ones of the SHOPS that were drawn: in how many "
+            + "10000ths (up) GAP (as a fraction: not rounded) is as great or greater.", () -> {
             Check.due("1 of 2", doubtOf(draw(asked(0, 1), 1, 0)), 5000);
             Check.due("2 of 2: the less", doubtOf(draw(asked(1, 0), 1, 0)), 10000);
             Check.due("2 of 2: as great", doubtOf(draw(asked(1, 1), 1, 0)), 10000);
